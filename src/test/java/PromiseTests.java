@@ -379,6 +379,13 @@ public final class PromiseTests {
         due("no failure by full", box.count(4), 0);
         due("n 0 goes at the limit", box.run(0, FIRST, 0), 1);
         dueLetGo("first", box, 0, 1, 2, 3);
+
+        SignalBox leading = routeOf(0, 1);
+        leading.section(0, BRIDGE, 100, 1);
+        leading.section(1, PLAIN, 100, 0);
+        due("refused by the first place", leading.run(0, FIRST, 2), -100);
+        due("the first place is taken", leading.run(0, FIRST, 1), 1);
+        due("not the second", leading.told(1, CLAIMS), 0);
     }
 
     private static void round() {
