@@ -6,34 +6,67 @@ import java.util.List;
  * kinds as subclasses, claims as resources that Java itself closes, failures as exceptions.
  */
 public final class ModelTest {
-    private static final int OBJECTS = 3000;
+    private static final int OBJECTS = 60000;
     private static final int CALLS = 512;
+    // What difference() asks: passed(), trace() of -2 .. 151, count() of -1 .. 11, told() of -1 .. 12 with -1 .. 9.
+    private static final int QUESTIONS = 1 + 154 + 13 + 14 * 11;
     private static final int SHOWN = 20;
 
     private static int wrong = 0;
 
     public static void main(String[] args) {
-        for (int seed = 1; seed <= OBJECTS && wrong < SHOWN; seed++) compare(seed);
+        for (int seed = 1; seed <= OBJECTS && wrong < SHOWN; seed++) {
+            Dice dice = new Dice(seed);
+            report(seed, seed % 2 == 0 ? askAllAtTheEnd(dice) : askBetween(dice));
+        }
         System.out.println(wrong == 0 ? "all answers are the model's" : wrong + " answers are not the model's");
         if (wrong != 0) System.exit(1);
     }
 
-    private static void compare(int seed) {
-        Dice dice = new Dice(seed);
+    private static void report(int seed, String difference) {
+        if (difference != null) {
+            wrong++;
+            System.out.println("object " + seed + ", " + difference);
+        }
+    }
+
+    // Nothing is promised behind an object's 512th call, so its whole state can be asked once alone.
+    private static String askAllAtTheEnd(Dice dice) {
+        SignalBox box = new SignalBox();
+        Model model = new Model();
+        int changes = 1 + dice.below(CALLS - QUESTIONS);
+        for (int call = 0; call < changes; call++) {
+            String found = oneCall(dice, box, model);
+            if (found != null) return "call " + call + ": " + found;
+        }
+        String found = difference(box, model);
+        return found == null ? null : "behind call " + (changes - 1) + ": " + found;
+    }
+
+    private static String askBetween(Dice dice) {
         SignalBox box = new SignalBox();
         Model model = new Model();
         for (int call = 0; call < CALLS; call++) {
-            String text = oneCall(dice, box, model);
-            if (text != null) {
-                wrong++;
-                System.out.println("object " + seed + ", call " + call + ": " + text);
-                return;
+            String found = dice.below(2) == 0 ? oneQuestion(dice, box, model) : oneCall(dice, box, model);
+            if (found != null) return "call " + call + ": " + found;
+        }
+        return null;
+    }
+
+    private static String oneQuestion(Dice dice, SignalBox box, Model model) {
+        switch (dice.below(8)) {
+            case 0: return unlike("passed()", box.passed(), model.passed);
+            case 1: case 2: case 3: {
+                int k = dice.below(dice.below(2) == 0 ? 20 : 154) - 2;
+                return unlike("trace(" + k + ")", box.trace(k), model.trace(k));
             }
-            String difference = difference(box, model);
-            if (difference != null) {
-                wrong++;
-                System.out.println("object " + seed + ", behind call " + call + ": " + difference);
-                return;
+            case 4: {
+                int what = dice.nearly(11);
+                return unlike("count(" + what + ")", box.count(what), model.count(what));
+            }
+            default: {
+                int place = dice.nearly(12), what = dice.nearly(9);
+                return unlike("told(" + place + ", " + what + ")", box.told(place, what), model.told(place, what));
             }
         }
     }
